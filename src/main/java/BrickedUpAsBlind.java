@@ -922,9 +922,9 @@ public final class BrickedUpAsBlind {
         /** The least number of the SORT, which stands for what is not told. */
         int untold() {
             if (sort == BYTES) {
-                return Byte.MIN_VALUE;
+                return -128;
             }
-            return sort == SHORTS ? Short.MIN_VALUE : Integer.MIN_VALUE;
+            return sort == SHORTS ? -32768 : -2147483648;
         }
     }
 
@@ -1474,7 +1474,7 @@ public final class BrickedUpAsBlind {
                 int owed = house.owed;
                 for (int y = 0; y < DRAWN_YEARS; y++) {
                     z = z * 1103515245 + 12345;
-                    int hour = (z & Integer.MAX_VALUE) / 65536 % House.HOURS;
+                    int hour = (z & 0x7fffffff) / 65536 % House.HOURS;
                     owed = house.owedBehindYear(owed, hour);
                     if (house.movingAt(hour) > 0) {
                         lively++;
