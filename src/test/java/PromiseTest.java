@@ -452,6 +452,8 @@ public final class PromiseTest {
         due("another room that lacks", x.hidden(), 2);
         due("empty", fresh(19).hidden(), 0);
         due("as it was", x.count(5), 2);
+        due("only at hour 0", house(19, "w03022;w03002;n012;").hidden(), 0);
+        due("only at hour 23", house(19, "w03021;w03001;n012;").hidden(), 0);
         // At 12 the first, at 0 the second: neither can go.
         due("by hours", house(19, "w03012;w03000;n006;").hidden(), 0);
     }
