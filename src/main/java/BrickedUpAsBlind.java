@@ -227,7 +227,7 @@ public final class BrickedUpAsBlind {
         if (!House.isWithin(n, 0, Play.LOOKS) || !isZeroOrOne(what)) {
             return NO_SUCH;
         }
-        return what == 0 ? Play.gained(now, 0, now.stopped, n) : Play.firstHour(now, n);
+        return what == 0 ? Play.mostDue(now, n) : Play.firstHour(now, n);
     }
 
     public int suitor(int what) {
@@ -1334,6 +1334,10 @@ public final class BrickedUpAsBlind {
         static final int LOOKS = 4;
         private static final int STEP = 6;
 
+        static int mostDue(House house, int left) {
+            return gained(house, 0, house.stopped, left);
+        }
+
         static int firstHour(House house, int left) {
             if (left <= 0) {
                 return NONE;
@@ -1351,7 +1355,7 @@ public final class BrickedUpAsBlind {
         }
 
         /** What the assessor gets by the looks left, when some (bits) were made. */
-        static int gained(House house, int looked, int stopped, int left) {
+        private static int gained(House house, int looked, int stopped, int left) {
             int most = 0;
             if (left <= 0) {
                 return most;
