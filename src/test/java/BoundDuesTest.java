@@ -117,6 +117,8 @@ public final class BoundDuesTest {
         Bounds.still("w09000;w79000;s0;s1;", "loophole = -4");
         Bounds.says("Terms II", "LOOPHOLE: the WINDOW and the KIND (10 the WINDOW and the KIND)");
         Bounds.still("w10000;", "loophole = 2");
+        Bounds.still("keep 0 1 0 5 / builds 0 0 12", "loophole = 2");
+        Bounds.still("keep 0 1 0 5 / builds 0 0 12 / needs 0 8", "loophole = -4");
         Bounds.still(Bounds.times(7, "w29000;") + "w10000;", "loophole = 72");
         Bounds.still(Bounds.times(7, "w29000;") + "w79312;n308;", "loophole = 70");
         Bounds.says("Terms II", "LOOPHOLE: .. makes ALL DUE least, less than now; of several the least");
@@ -175,6 +177,12 @@ public final class BoundDuesTest {
             Bounds.still("told 0 0 : " + Bounds.times(23, "0 ") + maid, "forged 0 = -4");
             Bounds.still("told 0 0 : " + Bounds.times(24, "0 ") + maid, "forged 0 = 23");
         }
+        String midnight = " / w69023;w69023;w69000;";
+        Bounds.still("told 0 0 : 0 2 1 0" + midnight, "forged 0 = -4");
+        Bounds.still("told 0 0 : 2 1 " + Bounds.times(22, "0 ") + "2 1" + midnight, "forged 0 = -4");
+        Bounds.still("told 0 0 : 1 " + Bounds.times(22, "0 ") + "2 1" + midnight, "forged 0 = -4");
+        Bounds.still("told 0 0 : 0 1 2" + midnight, "forged 0 = 1");
+        Bounds.still("told 0 0 : 1 2 0" + midnight, "forged 0 = 1");
         Bounds.says("Terms II", "FORGED: .. the first place that is not so, by the hour by which that is latest");
         Bounds.still("told 0 0 : 1 1 0 / w69000;", "forged 0 = 1");
         Bounds.still("told 0 0 : 2 / w69000;", "forged 0 = 0");

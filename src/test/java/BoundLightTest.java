@@ -38,6 +38,9 @@ public final class BoundLightTest {
         Bounds.says("Promise 13", "STOP: bits (what 0; -4), DUE (1; -4). -1.");
         Bounds.still("", "stop 0 = 0", "stop 1 = 0", "stop -1 = -1", "stop 2 = -1", "stop " + MOST + " = -1", "stop " + LEAST + " = -1");
         Bounds.still("n001;", "stop 0 = -4", "stop 1 = -4", "stop 2 = -1");
+        // Of the house as it is now, though no text was read.
+        Bounds.still("keep 0 1 0 5 / builds 0 0 12", "stop 0 = 1", "stop 1 = 0");
+        Bounds.still("keep 0 1 0 5 / builds 0 0 12 / needs 0 8", "stop 0 = 0", "stop 1 = 7");
         Bounds.still("w09012;n301;", "stop 0 = -4", "stop 1 = -4");
         Bounds.says("Terms II", "STOP: .. so that at HOUR each ROOM has its NEED");
         Bounds.still("w05012;n008;", "stop 0 = 0", "stop 1 = 7");
@@ -175,6 +178,8 @@ public final class BoundLightTest {
         Bounds.says("Promise 19", "HIDDEN: the most WINDOWS that can be STOPPED in all (all others not)");
         Bounds.still("", "hidden = 0");
         Bounds.still("n020;", "hidden = 0");
+        Bounds.still("keep 0 1 0 5 / builds 0 0 12", "hidden = 1");
+        Bounds.still("keep 0 1 0 5 / builds 0 0 12 / needs 0 8", "hidden = 0");
         Bounds.still(Bounds.times(8, "w09012;"), "hidden = 8");
         Bounds.still(Bounds.times(8, "w09012;") + "s0;s7;", "hidden = 8");
         // Behind midnight eight of 4 give 32: five of them are needed.

@@ -15,6 +15,7 @@ public final class BoundMotionTest {
         Bounds.says("Terms II", "LOOKS: the fewest hours (bits ..)");
         Bounds.still("w69000;w20000;", "looks = 1");
         Bounds.still("w69023;w20000;", "looks = " + (1 << 23));
+        Bounds.still("w69000;w69001;w20000;", "looks = 3");
         Bounds.still("w69000;w69023;w20000;", "looks = " + (1 + (1 << 23)));
         Bounds.still("w69022;w69023;w20000;", "looks = " + (3 << 22));
         Bounds.still("w69000;w69022;w69023;w20000;", "looks = " + (1 + (3 << 22)));
@@ -52,6 +53,7 @@ public final class BoundMotionTest {
         Bounds.still("", "mostMoving 0 = 0", "mostMoving 1 = 0");
         Bounds.still("w09000;w19000;w29000;w59000;", "mostMoving 0 = 0", "mostMoving 1 = 0");
         Bounds.still("w69023;", "mostMoving 0 = 23", "mostMoving 1 = 1");
+        Bounds.still("w69001;", "mostMoving 0 = 1", "mostMoving 1 = 1");
         Bounds.still("w69023;s0;", "mostMoving 0 = 0", "mostMoving 1 = 0");
         Bounds.still(Bounds.times(8, "w69023;"), "mostMoving 0 = 23", "mostMoving 1 = 8");
         Bounds.still(Bounds.times(8, "w69023;") + "s7;s0;", "mostMoving 0 = 23", "mostMoving 1 = 6");
@@ -129,6 +131,8 @@ public final class BoundMotionTest {
         String suitors = Bounds.times(8, "w75000;");
         Bounds.still(suitors, "game 1 0 = 48", "game 2 0 = 90", "game 3 0 = 126", "game 4 0 = 156", "game 4 1 = 0");
         Bounds.still(suitors + "s0;s1;s2;s3;s4;s5;r9;", "game 1 0 = 12", "game 2 0 = 18", "game 3 0 = 18", "game 4 0 = 18");
+        Bounds.still(suitors + "s1;s2;s3;s4;s5;s6;s7;", "game 1 0 = 6", "game 2 0 = 6", "game 4 0 = 6");
+        Bounds.still(suitors + "s0;s1;s2;s3;s4;s5;s6;", "game 1 0 = 6", "game 2 0 = 6", "game 4 0 = 6");
         Bounds.still(suitors + "s0;s1;s2;s3;s4;s5;s6;s7;", "game 4 0 = 0", "game 4 1 = 0");
         Bounds.says("Terms II", "GAME: he looks at an hour of 0, 6, 12, 18 that was not looked at");
         Bounds.still("w69000;", "game 1 0 = 10", "game 1 1 = 0");
@@ -146,6 +150,8 @@ public final class BoundMotionTest {
         // 12 first: 20, and the MAID of 6 is STOPPED; 6 first: 10, and one of 12 is STOPPED: 10 more.
         Bounds.still("w69006;w69012;w69012;", "game 1 1 = 12", "game 2 0 = 20", "game 2 1 = 6");
         Bounds.still("w68006;w69012;w69012;", "game 2 0 = 20", "game 2 1 = 12");
+        // 6 first: 10, and 7 of the two at 0; 0 first: 15, and the MAID of 6 is STOPPED.
+        Bounds.still("w69006;w67000;w66000;", "game 1 1 = 0", "game 2 0 = 17", "game 2 1 = 6");
         Bounds.still("w30000;w30000;", "game 1 1 = 0", "game 2 0 = 3", "game 3 0 = 3");
     }
 

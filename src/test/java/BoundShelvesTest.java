@@ -136,6 +136,8 @@ public final class BoundShelvesTest {
                 "copy 0 0 3 0 1 = -11", "copy 3 0 3 0 1 = -11", "copy 2 0 7 0 1 = -12", "copy 0 0 2 0 1 = -12", "copy 2 0 2 0 1 = -12",
                 "copy 1 0 7 0 1 = -12", "copy 0 0 1 0 1 = -12", "copy 1 0 4 0 0 = -12", "copy " + MOST + " 0 7 0 1 = -1",
                 "copy 0 0 " + LEAST + " 0 1 = -1");
+        Bounds.still("row 0 0 3 / keep 1 1 0 5 / row 2 0 3 / keep 2 1 0 5", "copy 0 0 1 0 1 = -12", "copy 1 0 0 0 1 = -12",
+                "copy 0 0 2 0 1 = -12", "copy 2 0 0 0 1 = -12", "copy 2 0 0 0 0 = -12");
         Bounds.says("REFUSALS", "of several the first one as they are told at the call: copy -1, -11, -12, -13");
         Bounds.still(two, "copy 8 0 3 0 1 = -1", "copy 3 0 8 0 1 = -1", "copy 2 0 8 0 -1 = -1", "copy 2 0 3 0 1 = -11", "copy 3 0 2 0 1 = -11",
                 "copy 3 -1 1 0 -1 = -11", "copy 1 9 7 0 -1 = -12", "copy 2 9 7 0 -1 = -12", "copy 0 0 2 -1 -1 = -12");

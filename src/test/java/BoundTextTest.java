@@ -118,7 +118,7 @@ public final class BoundTextTest {
     private static void outOfRange() {
         Bounds.says("Terms I", "FAULT: .. else kind 2 .. (a number out of range, no such one, more paid than OWED, "
                 + "YEAR above 999, no room): -2000 less the place");
-        String[] just = {"w00000;", "w79323;", "w09019;", "n000;", "n320;", "h00;", "h23;", "h19;", "r1;", "r9;", "y01;",
+        String[] just = {"w00000;", "w79323;", "w09019;", "n000;", "n020;", "n320;", "h00;", "h23;", "h19;", "r1;", "r9;", "y01;",
             "y99;", "p000;"};
         String[] beyond = {"w80000;", "w99323;", "w00400;", "w79923;", "w00024;", "w00030;", "w00099;", "n021;", "n399;",
             "n400;", "n920;", "h24;", "h30;", "h99;", "r0;", "y00;", "p001;", "p999;", "s0;", "s9;"};
@@ -192,6 +192,11 @@ public final class BoundTextTest {
         Bounds.says("Terms I", "Without FAULT all of it comes, with one nothing");
         refused("w05012;n105;h07;r2;y03;s0; / image", "w14323;n007;n120;h08;r9;y02;p001;s0;s1;s2;", -2039);
         refused("w05012;n105;h07;r2;y03;", "w14323;n007;n120;h08;r9;y02;p001;s0;s1;x", -1039);
+        Bounds.run("w05012;", "w14323;h05;r0; = -2011", "r2; = 1", "count 0 = 1", "count 1 = 12", "count 4 = 2");
+        Bounds.run("w05012;", "w14323;h05;x = -1011", "r2; = 1", "count 0 = 1", "count 1 = 12");
+        Bounds.run("w05012;", "stops 0 = 1", "set 0 3 = 12", "needs 2 4 = 0", "r2; = 1", "count 5 = 1", "count 1 = 3", "count 6 = 4");
+        Bounds.run("w05012;w05012;", "stop 0 = 3", "s1; = 1", "count 5 = 2", "hidden = 2", "loophole = 2", "h03; = 1", "count 5 = 2",
+                "window 0 0 = 0", "window 1 0 = 0");
         Bounds.alike("w05012;n105;h07;r2;y03;s0;", "keep 0 1 0 5 / builds 0 0 12 / keep 0 0 0 0 / needs 1 5 / set 0 7 / set 1 2"
                 + " / years 3 / stops 0");
         Bounds.alike("w79323;y02;p021;n320;n319;", "keep 0 1 7 9 / builds 0 3 23 / years 2 / pays 21 / needs 3 19 / keep 0 0 0 0");
